@@ -695,7 +695,7 @@ public final class NinetyLamps {
                 kept[k].full = false;
             }
         } else if (kind == Reader.OHMS) {
-            board.ohms[reader.wires[line]] = number;
+            board.resist(reader.wires[line], number);
         } else {
             board.add(reader.wires[line], reader.goals[line], number);
         }
@@ -1024,6 +1024,12 @@ public final class NinetyLamps {
             }
         }
 
+        void resist(int wire, int ohm) {
+            if (hasWire(wire)) {
+                ohms[wire] = ohm;
+            }
+        }
+
         void trade(int a, int b) {
             int wire = from[a];
             from[a] = from[b];
@@ -1112,9 +1118,8 @@ public final class NinetyLamps {
             }
         }
 
+        /** Without a lamp on it, it is all one whether the wire is let go. */
         void cut(int wire) {
-            high &= ~(1 << wire);
-            low &= ~(1 << wire);
             out[wire] = 0;
             into[wire] = 0;
         }
@@ -1263,7 +1268,7 @@ public final class NinetyLamps {
             }
             long glow = 0;
             for (int lamp = 0; lamp < board.lamps; lamp++) {
-                if (light[lamp] > 0 && light[lamp] * 100 >= board.faint * WHOLE) {
+                if (light[lamp] * 100 >= board.faint * WHOLE) {
                     glow |= 1L << lamp;
                 }
             }
@@ -1841,6 +1846,10 @@ public final class NinetyLamps {
         final int[] groupOf = new int[MOST_FAULTS];
         int groups = 0;
         final long[] shown = new long[MOST_FAULTS * MOST_TESTS];
+        final int[] sizes = new int[MOST_FAULTS];
+        final int[] worst = new int[MOST_FAULTS];
+        /** How many cells there are with some tests taken. */
+        final int[] parts = new int[1 << MOST_TESTS];
         /** The largest rows of all, so only an object that is asked for a tree makes them, once. */
         int[] cells = {};
         int[] depths = {};
@@ -1868,6 +1877,7 @@ public final class NinetyLamps {
             for (int k = 0; k < suspects.agreeing; k++) {
                 groupOf[k] = findGroup(suspects.agrees[k]);
             }
+            parts[0] = 1;
             for (int g = 0; g < groups; g++) {
                 cells[place(0, g)] = 0;
             }
@@ -1875,9 +1885,7 @@ public final class NinetyLamps {
                 partCells(taken);
             }
             for (int taken = (1 << tests) - 1; taken >= 0; taken--) {
-                for (int g = 0; g < groups; g++) {
-                    reckonDepth(taken, g);
-                }
+                reckonDepths(taken);
             }
         }
 
@@ -1904,71 +1912,62 @@ public final class NinetyLamps {
             return true;
         }
 
-        /** The cells without one of the tests taken, parted by that one. */
-        private void partCells(int taken) {
-            int test = Integer.numberOfTrailingZeros(taken);
-            int before = taken & ~(1 << test);
-            for (int g = 0; g < groups; g++) {
-                int first = 0;
-                while (first < g && !isOneCell(first, g, before, test)) {
-                    first++;
-                }
-                cells[place(taken, g)] = first;
-            }
-        }
-
-        private boolean isOneCell(int a, int b, int before, int test) {
-            return cellOf(before, a) == cellOf(before, b)
-                && shown[a * MOST_TESTS + test] == shown[b * MOST_TESTS + test];
-        }
-
         private static int place(int taken, int group) {
             return taken * MOST_FAULTS + group;
         }
 
-        private int cellOf(int taken, int group) {
-            return cells[place(taken, group)];
-        }
-
-        private void reckonDepth(int taken, int group) {
-            int cell = cellOf(taken, group);
-            int depth = 0;
-            if (cell != group) {
-                depth = depths[place(taken, cell)];
-            } else if (!isAlone(taken, group)) {
-                depth = MOST_TESTS;
-                for (int t = 0; t < tests; t++) {
-                    if ((taken >>> t & 1) == 0) {
-                        depth = Math.min(depth, 1 + worstBehind(taken, t, group));
-                    }
-                }
-            }
-            depths[place(taken, group)] = depth;
-        }
-
-        private boolean isAlone(int taken, int group) {
-            int cell = cellOf(taken, group);
+        /** The cells without one of the tests taken, parted by that one. */
+        private void partCells(int taken) {
+            int test = Integer.numberOfTrailingZeros(taken);
+            int before = place(taken & ~(1 << test), 0);
+            boolean parted = parts[taken & ~(1 << test)] == groups;
+            parts[taken] = 0;
             for (int g = 0; g < groups; g++) {
-                if (g != group && cellOf(taken, g) == cell) {
-                    return false;
+                int first = parted ? g : cells[before + g];
+                while (first < g && !isOneCell(first, g, before, test)) {
+                    first++;
                 }
+                cells[place(taken, g)] = first;
+                parts[taken] += first == g ? 1 : 0;
             }
-            return true;
         }
 
-        private int worstBehind(int taken, int test, int group) {
-            int cell = cellOf(taken, group);
-            int worst = 0;
+        private boolean isOneCell(int a, int b, int before, int test) {
+            return cells[before + a] == cells[before + b]
+                && shown[a * MOST_TESTS + test] == shown[b * MOST_TESTS + test];
+        }
+
+        private void reckonDepths(int taken) {
+            int row = place(taken, 0);
+            Arrays.fill(sizes, 0);
             for (int g = 0; g < groups; g++) {
-                if (cellOf(taken, g) == cell) {
-                    worst = Math.max(worst, depthAt(taken | 1 << test, g));
+                sizes[cells[row + g]]++;
+            }
+            for (int g = 0; g < groups; g++) {
+                depths[row + g] = sizes[g] > 1 ? MOST_TESTS : 0;
+            }
+            for (int t = 0; t < tests && parts[taken] < groups; t++) {
+                if ((taken >>> t & 1) == 0) {
+                    tryTest(row, taken | 1 << t);
                 }
             }
-            return worst;
+        }
+
+        private void tryTest(int row, int then) {
+            Arrays.fill(worst, 0);
+            for (int g = 0; g < groups; g++) {
+                int cell = cells[row + g];
+                worst[cell] = Math.max(worst[cell], depthAt(then, g));
+            }
+            for (int g = 0; g < groups; g++) {
+                if (sizes[g] > 1) {
+                    depths[row + g] = Math.min(depths[row + g], 1 + worst[g]);
+                }
+            }
         }
 
         int depthAt(int taken, int group) {
-            return depths[place(taken, group)];
+            return depths[place(taken, cells[place(taken, group)])];
         }
 
         /** The first of the best tests for a group's cell; NONE if no test is due there. */
@@ -1980,6 +1979,17 @@ public final class NinetyLamps {
                 }
             }
             return NONE;
+        }
+
+        private int worstBehind(int taken, int test, int group) {
+            int row = place(taken, 0);
+            int most = 0;
+            for (int g = 0; g < groups; g++) {
+                if (cells[row + g] == cells[row + group]) {
+                    most = Math.max(most, depthAt(taken | 1 << test, g));
+                }
+            }
+            return most;
         }
 
         int groupOfFault(int fault) {
