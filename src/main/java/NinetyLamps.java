@@ -1238,9 +1238,16 @@ public final class NinetyLamps {
             }
         }
 
+        /** More goes first, then fewer lamps, then the least row of them. */
         private void noteWay(int size, long amount) {
             passing++;
-            if (amount < best || amount == best && !isLessWay(size)) {
+            boolean first = amount > best || amount == best && size < bestSize;
+            boolean same = amount == best && size == bestSize;
+            for (int k = 0; k < size && same; k++) {
+                first = way[k] < bestWay[k];
+                same = way[k] == bestWay[k];
+            }
+            if (!first) {
                 return;
             }
             best = amount;
@@ -1248,18 +1255,6 @@ public final class NinetyLamps {
             for (int k = 0; k < size; k++) {
                 bestWay[k] = way[k];
             }
-        }
-
-        private boolean isLessWay(int size) {
-            if (size != bestSize) {
-                return size < bestSize;
-            }
-            for (int k = 0; k < size; k++) {
-                if (way[k] != bestWay[k]) {
-                    return way[k] < bestWay[k];
-                }
-            }
-            return false;
         }
 
         private long bright() {

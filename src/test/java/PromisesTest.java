@@ -1,94 +1,5 @@
-import java.util.NoSuchElementException;
-
 /** Each promise of the document by its number: ordinary inputs, its edges, and wrong inputs. */
-public final class PromisesTest {
-    static final int THROWN = 987654321;
-    static final int NONE = NinetyLamps.NONE;
-    static final long WHOLE = 27720;
-    /** Six lamps of 2 volts: 0>1, 1>0, 1>2, 2>1, 0>2, 2>0. */
-    static final String SIX = "w3;0>1*2;1>0*2;1>2*2;2>1*2;0>2*2;2>0*2";
-
-    static int wrong = 0;
-    static int promise = 0;
-
-    static void due(String what, long got, long want) {
-        if (got != want) {
-            wrong++;
-            System.out.println("promise " + promise + ": " + what + " answered " + got + ", due is " + want);
-        }
-    }
-
-    static void due(String what, boolean got, boolean want) {
-        due(what, got ? 1 : 0, want ? 1 : 0);
-    }
-
-    /** The row is just these numbers. */
-    static void row(NinetyLamps x, long... numbers) {
-        due("count(7)", x.count(7), numbers.length);
-        for (int k = 0; k < numbers.length; k++) {
-            due("row(" + k + ")", rowOf(x, k), numbers[k]);
-        }
-        due("row behind its end", rowOf(x, numbers.length), THROWN);
-    }
-
-    static long rowOf(NinetyLamps x, int k) {
-        try {
-            return x.row(k);
-        } catch (NoSuchElementException e) {
-            return THROWN;
-        }
-    }
-
-    static long lampOf(NinetyLamps x, int lamp, int what) {
-        try {
-            return x.lamp(lamp, what);
-        } catch (NoSuchElementException e) {
-            return THROWN;
-        }
-    }
-
-    static long faultOf(NinetyLamps x, int fault, int what) {
-        try {
-            return x.fault(fault, what);
-        } catch (NoSuchElementException e) {
-            return THROWN;
-        }
-    }
-
-    static void write(NinetyLamps x, String text) {
-        x.end(0);
-        for (int k = 0; k < text.length(); k += 4) {
-            int v = 0;
-            for (int n = 0; n < 4; n++) {
-                v = v << 8 | (k + n < text.length() ? text.charAt(k + n) : 0);
-            }
-            x.sign(v);
-        }
-        if (!x.end(text.length())) {
-            throw new AssertionError("the text is too long: " + text);
-        }
-    }
-
-    static int tell(NinetyLamps x, String text) {
-        write(x, text);
-        return x.board();
-    }
-
-    static NinetyLamps with(String text) {
-        NinetyLamps x = new NinetyLamps();
-        if (tell(x, text) < 0) {
-            throw new AssertionError("not a board: " + text);
-        }
-        return x;
-    }
-
-    /** Many lamps 0>1 of a volt. */
-    static void addLamps(NinetyLamps x, int many) {
-        for (int k = 0; k < many; k++) {
-            tell(x, "0>1*1");
-        }
-    }
-
+public final class PromisesTest extends Bench {
     static String times(String part, int many) {
         return part.repeat(many);
     }
@@ -151,7 +62,7 @@ public final class PromisesTest {
     }
 
     static void p1() {
-        promise = 1;
+        test = "promise 1";
         NinetyLamps x = new NinetyLamps();
         int[] first = {4, 0, 5, 0, 0, 0, 0, 0, 0};
         for (int what = 0; what < first.length; what++) {
@@ -167,7 +78,7 @@ public final class PromisesTest {
     }
 
     static void p2() {
-        promise = 2;
+        test = "promise 2";
         NinetyLamps x = new NinetyLamps();
         due("sign", x.sign(('w' << 24) | ('3' << 16) | (';' << 8) | 'w'), 4);
         due("sign", x.sign(0x80FF0001), 8);
@@ -186,7 +97,7 @@ public final class PromisesTest {
     }
 
     static void p3() {
-        promise = 3;
+        test = "promise 3";
         NinetyLamps x = new NinetyLamps();
         due("end(0)", x.end(0), true);
         due("end(1)", x.end(1), false);
@@ -202,7 +113,7 @@ public final class PromisesTest {
     }
 
     static void p4() {
-        promise = 4;
+        test = "promise 4";
         String[] texts = {
             "", "w", "w1", "w2", "w10", "w11", "w02", "w00", "w100", "w1x", "wx", "w3;", ";", "w3;;", "x", "W3",
             "r", "r4,1", "r3,1", "r0", "r0;", "r0,", "r0,4", "r0,5", "r0,04", "r0,040", "r0,10", "r01",
@@ -276,7 +187,7 @@ public final class PromisesTest {
     }
 
     static void p5() {
-        promise = 5;
+        test = "promise 5";
         NinetyLamps x = new NinetyLamps();
         int[][] calls = {
             {0, 20, 5}, {0, 1, 20}, {0, 0, -1}, {0, 21, -1}, {0, 7, 1}, {1, 3, 2}, {1, 1, 3}, {1, 0, -1}, {1, 4, -1},
@@ -288,7 +199,7 @@ public final class PromisesTest {
     }
 
     static void p6() {
-        promise = 6;
+        test = "promise 6";
         NinetyLamps x = with("w10;9>0*7;0>9*1");
         int[] dues = {9, 0, 7, 0, 9, 1};
         for (int k = 0; k < 6; k++) {
@@ -302,7 +213,7 @@ public final class PromisesTest {
     }
 
     static void p7() {
-        promise = 7;
+        test = "promise 7";
         NinetyLamps x = with("w3;r0,0;r2,4;r2,3");
         due("ohms(0)", x.ohms(0), 0);
         due("ohms(1)", x.ohms(1), 1);
@@ -312,7 +223,7 @@ public final class PromisesTest {
     }
 
     static void p8() {
-        promise = 8;
+        test = "promise 8";
         NinetyLamps x = with("0>1*5;0>1*5;0>1*5;0>1*5");
         due("ints 0, 4, 8; then 1", x.sheet(2, 3, 0, 4), 1 + 4 + 8 + 1);
         due("lamp 1", lampOf(x, 1, 2), 4);
@@ -337,7 +248,7 @@ public final class PromisesTest {
     }
 
     static void p9() {
-        promise = 9;
+        test = "promise 9";
         NinetyLamps x = with("0>1*2;2>3*7");
         due("swap(0, 1)", x.swap(0, 1), true);
         int[] dues = {2, 3, 2, 0, 1, 7};
@@ -354,7 +265,7 @@ public final class PromisesTest {
     }
 
     static void p10() {
-        promise = 10;
+        test = "promise 10";
         NinetyLamps x = with(SIX);
         due("put(1, 2)", x.put(1, 2), 3);
         due("HIGH", x.count(3), 1);
@@ -389,7 +300,7 @@ public final class PromisesTest {
     }
 
     static void p11() {
-        promise = 11;
+        test = "promise 11";
         NinetyLamps x = with(SIX);
         due("glows()", x.glows(), 0);
         x.put(1, 2);
@@ -402,7 +313,7 @@ public final class PromisesTest {
     }
 
     static void p12() {
-        promise = 12;
+        test = "promise 12";
         NinetyLamps x = with(SIX);
         x.put(1, 2);
         due("ghosts()", x.ghosts(), 24);
@@ -412,7 +323,7 @@ public final class PromisesTest {
     }
 
     static void p13() {
-        promise = 13;
+        test = "promise 13";
         NinetyLamps x = with("w4;r0,0;r3,4;0>3*1;0>1*1;1>3*1;1>3*2;0>2*1;2>3*1");
         x.set(0, 6);
         x.put(1, 8);
@@ -430,7 +341,7 @@ public final class PromisesTest {
     }
 
     static void p14() {
-        promise = 14;
+        test = "promise 14";
         NinetyLamps x = with("w4;0>2*1;0>1*1;1>3*1;2>3*1;0>3*3;0>1*1;3>0*1");
         x.put(1, 8);
         due("why(1)", x.why(1), WHOLE * 3 / 4);
@@ -468,7 +379,7 @@ public final class PromisesTest {
     }
 
     static void p15() {
-        promise = 15;
+        test = "promise 15";
         NinetyLamps x = with(SIX);
         x.put(1, 2);
         due("from", x.draws(0), WHOLE + WHOLE / 4);
@@ -482,7 +393,7 @@ public final class PromisesTest {
     }
 
     static void p16() {
-        promise = 16;
+        test = "promise 16";
         NinetyLamps x = with("w4;0>1*4;0>1*2;0>1*2;0>1*4");
         due("nothing shown", x.brightest(), -2);
         x.put(1, 2);
@@ -497,7 +408,7 @@ public final class PromisesTest {
     }
 
     static void p17() {
-        promise = 17;
+        test = "promise 17";
         NinetyLamps x = with(SIX);
         x.set(0, 4);
         due("shows(17)", x.shows(17), 17);
@@ -518,7 +429,7 @@ public final class PromisesTest {
     }
 
     static void p18() {
-        promise = 18;
+        test = "promise 18";
         NinetyLamps x = with(SIX);
         due("bars(1): with both ghosts at 15, with lamp 3 at 16", x.bars(1), 1);
         row(x, 16, 3);
@@ -532,7 +443,7 @@ public final class PromisesTest {
     }
 
     static void p19() {
-        promise = 19;
+        test = "promise 19";
         NinetyLamps x = with(SIX);
         due("most()", x.most(), 2);
         row(x, 14);
@@ -546,7 +457,7 @@ public final class PromisesTest {
     }
 
     static void p20() {
-        promise = 20;
+        test = "promise 20";
         NinetyLamps x = with("w3;0>1*1;1>2*1");
         due("0, a, b, both by ghosts", x.sets(), 4);
         row(x, 3);
@@ -560,7 +471,7 @@ public final class PromisesTest {
     }
 
     static void p21() {
-        promise = 21;
+        test = "promise 21";
         NinetyLamps x = with("w3;0>1*1;1>2*1;0>2*1");
         due("only as ghosts", x.fits(0, 1), 0);
         due("fits(0, 2)", x.fits(0, 2), 1);
@@ -573,7 +484,7 @@ public final class PromisesTest {
     }
 
     static void p22() {
-        promise = 22;
+        test = "promise 22";
         NinetyLamps x = with("w3;0>1*1;0>1*1;1>2*1");
         due("two are never alone", x.alone(), 4);
         x.set(0, 4);
@@ -586,7 +497,7 @@ public final class PromisesTest {
     }
 
     static void p23() {
-        promise = 23;
+        test = "promise 23";
         NinetyLamps x = with("w3;0>2*9;0>1*1;0>2*9;0>1*2;0>1*3");
         due("twins()", x.twins(), 3);
         row(x, 1, 3);
@@ -601,7 +512,7 @@ public final class PromisesTest {
     }
 
     static void p24() {
-        promise = 24;
+        test = "promise 24";
         NinetyLamps x = with("w3;0>1*2;0>2*3;2>1*4");
         due("range(1, 2)", x.range(1, 2), 0b11111000);
         x.set(0, 20);
@@ -613,7 +524,7 @@ public final class PromisesTest {
     }
 
     static void p25() {
-        promise = 25;
+        test = "promise 25";
         NinetyLamps x = with(SIX);
         due("picture(0, 3)", x.picture(0, 3), 2);
         due("picture(3, 63)", x.picture(3, 63), 6);
@@ -626,7 +537,7 @@ public final class PromisesTest {
     }
 
     static void p26() {
-        promise = 26;
+        test = "promise 26";
         NinetyLamps x = with(SIX);
         x.set(1, 1);
         x.picture(0, 63);
@@ -659,7 +570,7 @@ public final class PromisesTest {
     }
 
     static void p27() {
-        promise = 27;
+        test = "promise 27";
         NinetyLamps x = with(SIX);
         x.set(1, 1);
         x.picture(0, 63);
@@ -681,7 +592,7 @@ public final class PromisesTest {
     }
 
     static void p28() {
-        promise = 28;
+        test = "promise 28";
         NinetyLamps x = with("w3;0>1*1;1>2*9;0>1*1;1>2*2");
         x.picture(0, 0b1011);
         due("lamp 0 only with lamp 2, lamp 1 never", x.never(0), 3);
@@ -697,7 +608,7 @@ public final class PromisesTest {
     }
 
     static void p29() {
-        promise = 29;
+        test = "promise 29";
         NinetyLamps x = with(SIX);
         x.set(1, 1);
         x.picture(0, 63);
@@ -744,7 +655,7 @@ public final class PromisesTest {
     }
 
     static void p30() {
-        promise = 30;
+        test = "promise 30";
         NinetyLamps x = with("w4;0>1*1;1>0*3");
         x.picture(0, 3);
         due("two turns, two slots", x.even(0, 2), WHOLE * 2 / 3);
@@ -781,7 +692,7 @@ public final class PromisesTest {
     }
 
     static void p31() {
-        promise = 31;
+        test = "promise 31";
         NinetyLamps x = with(SIX);
         x.set(0, 4);
         x.picture(0, 3);
@@ -811,7 +722,7 @@ public final class PromisesTest {
     }
 
     static void p32() {
-        promise = 32;
+        test = "promise 32";
         NinetyLamps x = new NinetyLamps();
         due("faults()", x.faults(), 1 + 4 + 6);
         row(x, 5, 11);
@@ -821,7 +732,7 @@ public final class PromisesTest {
     }
 
     static void p33() {
-        promise = 33;
+        test = "promise 33";
         NinetyLamps x = with("0>1*1;1>0*1");
         int[][] all = {
             {0, -1, -1}, {1, 0, -1}, {1, 1, -1}, {1, 2, -1}, {1, 3, -1}, {2, 0, 1}, {2, 0, 2}, {2, 0, 3}, {2, 1, 2},
@@ -838,7 +749,7 @@ public final class PromisesTest {
     }
 
     static void p34() {
-        promise = 34;
+        test = "promise 34";
         NinetyLamps x = with("0>1*1;1>2*1;2>3*1;r0,4;r1,0");
         due("none", x.would(0, 1, 4), 3);
         due("1 cut", x.would(2, 1, 4), 0);
@@ -865,7 +776,7 @@ public final class PromisesTest {
     }
 
     static void p35() {
-        promise = 35;
+        test = "promise 35";
         NinetyLamps x = with("w2;0>1*1");
         due("cut", x.tells(1), 1);
         row(x, 5);
@@ -880,7 +791,7 @@ public final class PromisesTest {
     }
 
     static void p36() {
-        promise = 36;
+        test = "promise 36";
         NinetyLamps x = with("w2;0>1*1");
         due("hidden()", x.hidden(), 0);
         row(x);
@@ -894,7 +805,7 @@ public final class PromisesTest {
     }
 
     static void p37() {
-        promise = 37;
+        test = "promise 37";
         NinetyLamps x = with("w2;0>1*1");
         due("cut 0 and cut 1", x.alike(1, 2), 1);
         due("0 and turned", x.alike(0, 4), 0);
@@ -909,7 +820,7 @@ public final class PromisesTest {
     }
 
     static void p38() {
-        promise = 38;
+        test = "promise 38";
         NinetyLamps x = with("w2;0>1*1");
         for (int k = 1; k <= 12; k++) {
             due("seen", x.seen(1, 2, 1), k);
@@ -923,7 +834,7 @@ public final class PromisesTest {
     }
 
     static void p39() {
-        promise = 39;
+        test = "promise 39";
         NinetyLamps x = with("w2;0>1*1");
         due("none", x.forget(), NONE);
         x.seen(1, 2, 1);
@@ -935,7 +846,7 @@ public final class PromisesTest {
     }
 
     static void p40() {
-        promise = 40;
+        test = "promise 40";
         NinetyLamps x = with("w4;0>1*1");
         due("all", x.which(), 12);
         row(x, 0, 1, 2, 3, 4, 5, 6, 7);
@@ -952,7 +863,7 @@ public final class PromisesTest {
     }
 
     static void p41() {
-        promise = 41;
+        test = "promise 41";
         NinetyLamps x = with("w2;0>1*1");
         x.seen(0, 0, 0);
         x.seen(1, 2, 1);
@@ -967,7 +878,7 @@ public final class PromisesTest {
     }
 
     static void p42() {
-        promise = 42;
+        test = "promise 42";
         NinetyLamps x = with("w2;0>1*1");
         due("next()", x.next(), 4);
         row(x, 5);
@@ -983,7 +894,7 @@ public final class PromisesTest {
     }
 
     static void p43() {
-        promise = 43;
+        test = "promise 43";
         NinetyLamps x = with("w2;0>1*1");
         for (int k = 0; k < 8; k++) {
             due("test", x.test(1, 2), k);
@@ -997,7 +908,7 @@ public final class PromisesTest {
     }
 
     static void p44() {
-        promise = 44;
+        test = "promise 44";
         NinetyLamps x = with("w2;0>1*1");
         due("no tests", x.tree(), 0);
         row(x, NONE, 1);
@@ -1030,7 +941,7 @@ public final class PromisesTest {
     }
 
     static void p45() {
-        promise = 45;
+        test = "promise 45";
         NinetyLamps x = with("w2;0>1*1");
         x.test(0, 0);
         x.test(2, 1);
@@ -1055,7 +966,7 @@ public final class PromisesTest {
     }
 
     static void p46() {
-        promise = 46;
+        test = "promise 46";
         NinetyLamps x = with("w2;0>1*1");
         due("keep(0)", x.keep(0), true);
         due("keep(1)", x.keep(1), true);
@@ -1071,7 +982,7 @@ public final class PromisesTest {
     }
 
     static void p47() {
-        promise = 47;
+        test = "promise 47";
         NinetyLamps x = with("w3;0>1*1;1>2*2");
         due("nothing kept", x.again(0), false);
         x.put(1, 2);
@@ -1120,7 +1031,7 @@ public final class PromisesTest {
     }
 
     static void p48() {
-        promise = 48;
+        test = "promise 48";
         NinetyLamps x = with("w7;0>1*1;0>1*1");
         x.set(0, 11);
         x.put(3, 12);
@@ -1139,7 +1050,7 @@ public final class PromisesTest {
     }
 
     static void p49() {
-        promise = 49;
+        test = "promise 49";
         NinetyLamps x = with("w2;0>1*1");
         due("no row", rowOf(x, 0), THROWN);
         due("below 0", rowOf(x, -1), THROWN);
