@@ -104,6 +104,19 @@ public final class BoardEdgesTest extends Bench {
         leaves("an empty one, end(-1)", NinetyLamps::new, x -> bit(x.end(-1)), 0);
     }
 
+    static void promise03SignsBehindAreGone() {
+        String[] lines = {"w10", "r0,04", "0>1*09"};
+        int[][] answers = {{0, -2, -2}, {0, -2, -3, -4, 1}, {0, -2, -3, -4, -5, -5}};
+        for (int k = 0; k < lines.length; k++) {
+            for (int many = 0; many < lines[k].length(); many++) {
+                NinetyLamps x = new NinetyLamps();
+                write(x, lines[k]);
+                x.end(many);
+                due("the first " + many + " of " + lines[k], x.board(), answers[k][many]);
+            }
+        }
+    }
+
     static void promise03FirstSignsAlone() {
         NinetyLamps x = new NinetyLamps();
         write(x, "w7;w3");
@@ -163,6 +176,11 @@ public final class BoardEdgesTest extends Bench {
         refusesText(filled(75) + "w4", Bench::rich, -77);
         refusesText(filled(72) + "0>1*1", Bench::rich, -77);
         refusesText(filled(71) + "0>1*1;w4", Bench::rich, -77);
+        refusesText(filled(74) + "r0,1", Bench::rich, -77);
+        refusesText(filled(75) + "r0,1", Bench::rich, -77);
+        refusesText(filled(73) + "0>1*1", Bench::rich, -77);
+        refusesText(filled(74) + "0>1*1", Bench::rich, -77);
+        refusesText(filled(75) + "0>1*1", Bench::rich, -77);
         refusesText(filled(76) + "x", Bench::rich, -77);
     }
 
@@ -187,6 +205,16 @@ public final class BoardEdgesTest extends Bench {
         refusesText(filled(72) + "r0,40", Bench::rich, -77);
         refusesText(filled(71) + "r0,40;", Bench::rich, -76);
         refusesText(filled(72) + "r0,50", Bench::rich, -76);
+    }
+
+    static void promise04FirstSignThatCannotStand() {
+        String[] texts = {
+            "w;x", "r;x", "r0;x", "r0,;x", "0;x", "0>;x", "0>1;x", "0>1*;x", ">1*x", ">x", "0>*x", "r,x", "r0,,x", "5>1*x",
+            "0>5*x", "r5,x", "w1;x", "0>1*0;x", "r0,5;x"};
+        int[] places = {1, 1, 2, 3, 1, 2, 3, 4, 0, 0, 2, 1, 3, 0, 2, 1, 1, 4, 3};
+        for (int k = 0; k < texts.length; k++) {
+            refusesText(texts[k], Bench::rich, -1 - places[k]);
+        }
     }
 
     static void promise04WireThatIsNotThere() {
@@ -449,6 +477,17 @@ public final class BoardEdgesTest extends Bench {
         leaves("sheet(-1, -1, ..)", x -> x.sheet(-1, -1, 4, 0), NONE);
         leaves("sheet(4, -1, ..)", x -> x.sheet(4, -1, 4, 0), NONE);
         leaves("sheet(4, 61, ..)", x -> x.sheet(4, 61, 4, 0), NONE);
+    }
+
+    static void promise08CountsAtOnce() {
+        NinetyLamps x = with("w2;0>1*5");
+        x.put(1, 2);
+        due("not above 5", x.shows(1), -2);
+        x.sheet(2, 1, 4, 0);
+        due("above 4", x.shows(1), 5);
+        due("as is shown", x.glows(), 1);
+        x.sheet(3, 0, 0, 0);
+        due("one", x.light(0), WHOLE * 4 / 3);
     }
 
     static void promise08WithoutLamps() {

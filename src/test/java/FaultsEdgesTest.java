@@ -105,7 +105,7 @@ public final class FaultsEdgesTest extends Bench {
     }
 
     static void promise34ShowsNothingOfIt() {
-        for (int fault = 0; fault < RICH; fault += 3) {
+        for (int fault = 0; fault < RICH; fault++) {
             int f = fault;
             leaves("would(" + fault + ", 9, 6)", x -> x.would(f, 9, 6), rich().would(fault, 9, 6));
         }
@@ -329,6 +329,15 @@ public final class FaultsEdgesTest extends Bench {
         row(y, 5);
     }
 
+    static void promise42OfAllSettings() {
+        NinetyLamps x = with("w3;1>2*1;1>0*1");
+        due("2 1 2: both; lamp 0; lamp 1; three dark", x.next(), 3);
+        row(x, 23);
+        x.seen(2, 5, 0);
+        due("of cut 1, 0 and 1 that touch, 1 and 2 that touch", x.next(), 2);
+        row(x, 5);
+    }
+
     // ---- test, tree, path
 
     static void promise43EightAtMost() {
@@ -400,6 +409,83 @@ public final class FaultsEdgesTest extends Bench {
         most.test(1, 2);
         due("of 116 faults the second test tells each that the first does", most.tree(), 1);
         row(most, 1, 1 + 1 + 60);
+    }
+
+    /** Test 1 parts best; behind it tests 0 and 2, or 2 and 3, are due. */
+    static NinetyLamps branching() {
+        NinetyLamps x = with("w3;1>2*1;1>0*1");
+        x.test(1, 2);
+        x.test(3, 4);
+        x.test(2, 1);
+        x.test(5, 2);
+        return x;
+    }
+
+    static void promise44NotTheFirstTest() {
+        NinetyLamps x = branching();
+        due("tree()", x.tree(), 3);
+        row(x, 1, 7);
+    }
+
+    static void promise45FirstOfEqualTestsEachTime() {
+        long[][] rows = {
+            {1, 0, 2, 1}, {1, 0, 2, 2}, {1, 2, 1}, {1, 2, 3, 2}, {1, 0, 2, 2}, {1, 2, 1}, {1, 2, 3, 2}, {1, 2, 3, 1},
+            {1, 0, 1}};
+        NinetyLamps x = branching();
+        for (int fault = 0; fault < rows.length; fault++) {
+            due("path(" + fault + ")", x.path(fault), rows[fault].length - 1);
+            row(x, rows[fault]);
+        }
+    }
+
+    /** Boards with their tests (high, low), the tree's depth, first test and groups, each fault's path by digits. */
+    static final String[][] TREES = {
+        {"w4;2>3*1;2>0*1;1>3*1;0>3*1", "8 2 6 8 2 13 4 3", "3 1 14",
+            "121 132 101 11 1231 121 121 11 121 1231 121 11 132 101 131"},
+        {"w3;1>2*1;1>0*1", "2 5", "1 0 4", "02 02 03 02 03 02 03 02 02"},
+        {"w4;2>3*1;2>1*1;3>0*1;3>0*1", "8 7 2 4 7 8 13 2", "3 2 10",
+            "2302 2301 2313 201 2033 2313 2302 2033 2313 2031 2033 201 2311 21 21"},
+        {"w2;0>1*1", "1 2", "1 0 2", "01 04 04 04 04"},
+        {"w4;0>1*1;2>1*1;1>0*1", "9 4 6 1 1 10 12 1", "3 2 11",
+            "2033 2132 2132 2031 2033 2131 21 211 201 2031 2033 211 201 21"},
+        {"w4;1>2*1;1>0*1", "3 8 2 12 4 1 8 1", "3 1 7", "105 105 1232 1232 105 105 12 12 121 1231 101 121 105"}};
+
+    static long[] numbers(String text) {
+        String[] parts = text.split(" ");
+        long[] numbers = new long[parts.length];
+        for (int k = 0; k < parts.length; k++) {
+            numbers[k] = Long.parseLong(parts[k]);
+        }
+        return numbers;
+    }
+
+    static void lookAtTree(NinetyLamps x, String[] tree) {
+        tell(x, tree[0]);
+        long[] tests = numbers(tree[1]);
+        for (int k = 0; k < tests.length; k += 2) {
+            x.test((int) tests[k], (int) tests[k + 1]);
+        }
+        long[] due = numbers(tree[2]);
+        due("tree() of " + tree[0], x.tree(), due[0]);
+        due("the first test", rowOf(x, 0), due[1]);
+        due("groups", rowOf(x, 1), due[2]);
+        String[] paths = tree[3].split(" ");
+        for (int fault = 0; fault < paths.length; fault++) {
+            int steps = paths[fault].length() - 1;
+            due("path(" + fault + ") of " + tree[0], x.path(fault), steps);
+            for (int k = 0; k <= steps; k++) {
+                due("row(" + k + ")", rowOf(x, k), paths[fault].charAt(k) - '0');
+            }
+        }
+    }
+
+    static void promise45TreesOneAfterAnother() {
+        for (int first = 0; first < TREES.length; first++) {
+            NinetyLamps x = new NinetyLamps();
+            for (int k = 0; k < 3; k++) {
+                lookAtTree(x, TREES[(first + k) % TREES.length]);
+            }
+        }
     }
 
     static void promise45FaultsThatAreThere() {

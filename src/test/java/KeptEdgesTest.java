@@ -43,12 +43,50 @@ public final class KeptEdgesTest extends Bench {
         x.put(1, 6);
         due("again(0)", x.again(0), true);
         due("LAMPS", x.count(1), 2);
-        due("WIRE", lampOf(x, 0, 0), 0);
-        due("VOLTS", lampOf(x, 1, 2), 2);
+        int[] dues = {0, 1, 1, 1, 2, 2};
+        for (int k = 0; k < 6; k++) {
+            due("lamp(" + k / 3 + ", " + k % 3 + ")", lampOf(x, k / 3, k % 3), dues[k]);
+        }
         due("HIGH", x.count(3), 0);
+        due("LOW", x.count(4), 0);
         due("SEEN", x.judge(0), -2);
         x.set(0, 1);
         due("PICTURE", x.never(0), 1);
+    }
+
+    static void promise47AllThatWasKept() {
+        NinetyLamps x = with("w5;3>4*7;4>2*9;2>1*3");
+        x.put(9, 22);
+        for (int i = 0; i < 4; i++) {
+            x.picture(i, i + 1);
+        }
+        x.seen(0, 0, 0);
+        x.seen(1, 2, 4);
+        x.keep(1);
+        tell(x, "0>1*1");
+        x.swap(0, 2);
+        x.sheet(3, 0, 0, 0);
+        x.put(0, 0);
+        for (int i = 0; i < 4; i++) {
+            x.picture(i, 8);
+        }
+        x.forget();
+        x.seen(0, 0, 8);
+        x.seen(0, 0, 1);
+        due("again(1)", x.again(1), true);
+        int[] dues = {3, 4, 7, 4, 2, 9, 2, 1, 3};
+        for (int k = 0; k < 9; k++) {
+            due("lamp(" + k / 3 + ", " + k % 3 + ")", lampOf(x, k / 3, k % 3), dues[k]);
+        }
+        due("LAMPS", x.count(1), 3);
+        due("HIGH", x.count(3), 9);
+        due("LOW", x.count(4), 22);
+        due("SEEN", x.count(5), 2);
+        due("the second does not agree", x.judge(0), 1);
+        x.set(0, 1);
+        for (int i = 0; i < 4; i++) {
+            due("PICTURE " + i, x.never(i), i + 1);
+        }
     }
 
     static void promise47NothingKept() {

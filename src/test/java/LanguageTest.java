@@ -1,6 +1,10 @@
 import java.nio.file.Files;
 import java.nio.file.Path;
 import java.util.List;
+import java.util.Map;
+import java.util.Set;
+import java.util.TreeMap;
+import java.util.TreeSet;
 import java.util.regex.Matcher;
 import java.util.regex.Pattern;
 
@@ -44,8 +48,32 @@ public final class LanguageTest {
             fail("too many classes: " + classes);
         }
         lookAtMethods(text);
+        for (String name : bodies.keySet()) {
+            int depth = depthOf(name, new TreeSet<>());
+            if (depth > 8) {
+                fail(name + " goes " + depth + " calls deep");
+            }
+        }
         System.out.println(wrong == 0 ? "the language is kept" : "the language is not kept");
         System.exit(wrong == 0 ? 0 : 1);
+    }
+
+    /** Bodies of methods by name; those of one name in several classes are taken as one. */
+    static final Map<String, String> bodies = new TreeMap<>();
+
+    /** How deep calls go from a method, itself counted; a recursion is counted once. */
+    static int depthOf(String name, Set<String> open) {
+        int most = 0;
+        open.add(name);
+        Matcher call = Pattern.compile("\\b(\\w+)\\(").matcher(bodies.get(name));
+        Set<String> called = new TreeSet<>();
+        while (call.find()) {
+            if (bodies.containsKey(call.group(1)) && !open.contains(call.group(1)) && called.add(call.group(1))) {
+                most = Math.max(most, depthOf(call.group(1), open));
+            }
+        }
+        open.remove(name);
+        return most + 1;
     }
 
     static void lookAtMethods(String text) {
@@ -58,6 +86,7 @@ public final class LanguageTest {
             found++;
             int end = text.indexOf("\n" + head.group(1) + "}", head.end());
             int lines = text.substring(head.start(), end + 1).split("\n").length + 1;
+            bodies.merge(head.group(2), text.substring(head.end(), end), String::concat);
             int parameters = head.group(3).isEmpty() ? 0 : head.group(3).split(",").length;
             if (lines > 60 || parameters > 7) {
                 fail(head.group(2) + " has " + lines + " lines, " + parameters + " parameters");

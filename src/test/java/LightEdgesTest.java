@@ -151,6 +151,16 @@ public final class LightEdgesTest extends Bench {
         x.set(1, 2);
         due("as far as two", x.why(0), WHOLE * 2 / 3);
         row(x, 0, 3);
+        NinetyLamps few = with("w5;r0,0;r3,0;1>2*1;0>1*1;1>4*2;2>3*1");
+        few.set(1, 3);
+        few.put(1, 24);
+        due("not by more lamps, with a less row", few.why(1), WHOLE * 2 / 3);
+        row(few, 1, 2);
+        NinetyLamps ahead = with("w5;r0,0;r3,0;0>1*1;1>4*2;1>2*1;2>3*1");
+        ahead.set(1, 3);
+        ahead.put(1, 24);
+        due("not by more lamps that come later", ahead.why(0), WHOLE * 2 / 3);
+        row(ahead, 0, 1);
         NinetyLamps y = with("w5;r0,0;r3,0;0>1*1;1>2*1;2>3*1;1>4*3");
         y.set(1, 3);
         y.put(1, 24);
@@ -169,6 +179,14 @@ public final class LightEdgesTest extends Bench {
         row(x, 0, 2);
         due("why(3)", x.why(3), WHOLE * 3 / 4);
         row(x, 0, 3);
+        NinetyLamps later = with("3>1*1;0>1*1;1>2*1");
+        later.put(9, 4);
+        due("lamp 0 comes from the later wire", later.why(2), WHOLE * 3 / 4);
+        row(later, 0, 2);
+        NinetyLamps more = with("0>1*1;1>2*2;1>2*1");
+        more.put(1, 4);
+        due("the most goes ahead of the least row", more.why(0), WHOLE * 3 / 4);
+        row(more, 0, 2);
         NinetyLamps y = with("1>2*1;1>2*1;0>1*1;3>1*1");
         y.put(9, 4);
         due("by the first lamp ahead of the second", y.why(1), WHOLE * 3 / 4);
@@ -248,5 +266,39 @@ public final class LightEdgesTest extends Bench {
         x.set(2, 34);
         due("lamp 0 is too faint", x.brightest(), 2);
         row(x, WHOLE, 1, WHOLE * 2 / 3);
+        NinetyLamps y = with("0>1*2;0>1*3;0>1*4");
+        y.set(2, 34);
+        y.put(1, 2);
+        due("lamp 2 is too faint", y.brightest(), 0);
+        row(y, WHOLE, 1, WHOLE * 2 / 3);
+    }
+
+    /** What other calls look at in between is not shown. */
+    static void promise11To16AsIsShown() {
+        Call[] others = {
+            x -> x.range(2, 4), x -> x.would(1, 2, 4), x -> x.would(11, 2, 1), x -> x.would(12, 4, 2), x -> x.next(),
+            x -> x.parted(0), x -> x.hidden(), x -> x.which(), x -> x.put(4, 4)};
+        for (Call other : others) {
+            NinetyLamps x = with("w4;r0,0;0>1*1;1>2*1");
+            x.picture(0, 3);
+            x.put(1, 4);
+            other.on(x);
+            due("glows()", x.glows(), 3);
+            other.on(x);
+            due("ghosts()", x.ghosts(), 3);
+            other.on(x);
+            due("light(1)", x.light(1), WHOLE);
+            row(x, 1, WHOLE);
+            other.on(x);
+            due("why(1)", x.why(1), WHOLE);
+            row(x, 0, 1);
+            other.on(x);
+            due("draws(0)", x.draws(0), WHOLE);
+            other.on(x);
+            due("draws(2)", x.draws(2), WHOLE);
+            other.on(x);
+            due("brightest()", x.brightest(), 0);
+            row(x, WHOLE, 0, WHOLE);
+        }
     }
 }

@@ -66,6 +66,28 @@ public final class PicturesEdgesTest extends Bench {
         return x;
     }
 
+    /**
+     * All lamps between six wires, so faint that one path through a wire between does not show, and
+     * two do. Each of twelve lamps is then a turn of its own.
+     */
+    static NinetyLamps twelve(int many) {
+        NinetyLamps x = with("w6");
+        for (int a = 0; a < 6; a++) {
+            StringBuilder text = new StringBuilder("r0,1");
+            for (int step = 1; step < 6; step++) {
+                text.append(';').append(a).append('>').append((a + step) % 6).append("*1");
+            }
+            tell(x, text.toString());
+        }
+        x.set(2, 76);
+        long lamps = 0;
+        for (int n = 0; n < many; n++) {
+            lamps |= 1L << n % 6 * 5 + n / 6;
+        }
+        x.picture(0, lamps);
+        return x;
+    }
+
     // ---- picture
 
     static void promise25FourPictures() {
@@ -148,6 +170,33 @@ public final class PicturesEdgesTest extends Bench {
         }
     }
 
+    static void promise26TwelveTurns() {
+        for (int many = 7; many <= 12; many++) {
+            NinetyLamps x = twelve(many);
+            due("one each of " + many, x.parted(0), many);
+            due("numbers told", x.count(7), many);
+            for (int n = 1; n < many; n++) {
+                due("rising", rowOf(x, n - 1) < rowOf(x, n), true);
+            }
+        }
+    }
+
+    static void promise26PicturesOneAfterAnother() {
+        NinetyLamps x = with("w3;0>1*1;0>1*1;0>1*1;1>2*1;2>0*1");
+        x.picture(0, 7);
+        x.picture(1, 24);
+        due("three in one turn", x.parted(0), 1);
+        due("two in two", x.parted(1), 2);
+        row(x, 5, 19);
+        due("three in one turn", x.parted(0), 1);
+        row(x, 15);
+        NinetyLamps y = with("w2;0>1*1;1>0*1;0>1*9");
+        y.picture(0, 3);
+        y.picture(1, 5);
+        due("two turns", y.parted(0), 2);
+        due("one of two lamps never glows", y.parted(1), -2);
+    }
+
     // ---- proof
 
     static void promise27PicturesThatAreThere() {
@@ -176,6 +225,20 @@ public final class PicturesEdgesTest extends Bench {
         apart.picture(0, 14);
         due("those that never glow together", apart.proof(0), 3);
         row(apart, 14);
+    }
+
+    static void promise27PicturesOneAfterAnother() {
+        NinetyLamps x = with("w2;0>1*1;0>1*1;1>0*1");
+        x.picture(0, 3);
+        x.picture(1, 7);
+        x.picture(2, 5);
+        due("two in one turn", x.proof(0), 1);
+        row(x, 1);
+        due("the third apart from both", x.proof(1), 2);
+        row(x, 5);
+        x.set(0, 1);
+        due("all apart in the dark", x.proof(0), 2);
+        row(x, 3);
     }
 
     static void promise27AsManyAsTurns() {
@@ -247,6 +310,7 @@ public final class PicturesEdgesTest extends Bench {
         due("six", x.changes(0), 2 + 5 * 3);
         due("numbers told", x.count(7), 6);
         leaves("seven", () -> ring(7), y -> y.changes(0), -5);
+        leaves("twelve", () -> twelve(12), y -> y.changes(0), -5);
     }
 
     static void promise29EmptyPicture() {
@@ -345,6 +409,37 @@ public final class PicturesEdgesTest extends Bench {
         row(both, 2, 1);
     }
 
+    static void promise30TurnInWhichTheDimmestHasMost() {
+        NinetyLamps x = with("w2;0>1*1;1>0*3");
+        x.picture(0, 3);
+        due("lamp 1 glows in the second turn", x.even(0, 3), WHOLE * 4 / 3);
+        row(x, 1, 2);
+        due("four slots", x.even(0, 4), WHOLE * 4 / 3);
+        row(x, 2, 2);
+        due("five slots", x.even(0, 5), WHOLE * 2);
+        row(x, 2, 3);
+        due("200 slots", x.even(0, 200), WHOLE * 88 + WHOLE * 2 / 3);
+        row(x, 67, 133);
+    }
+
+    static void promise30TwelveTurns() {
+        NinetyLamps x = twelve(12);
+        due("a slot each; each lamp is on a path of two others' turns", x.even(0, 12), WHOLE * 17 / 6);
+        row(x, 1, 1, 1, 1, 1, 1, 1, 1, 1, 1, 1, 1);
+        leaves("one less", () -> twelve(12), y -> y.even(0, 11), -2);
+        x.picture(0, 1);
+        due("then of one turn alone", x.even(0, 2), WHOLE * 8 / 3);
+        row(x, 2);
+        NinetyLamps y = with("w2;1>0*1;0>1*1");
+        y.set(0, 20);
+        y.picture(0, 3);
+        y.picture(1, 1);
+        due("two turns", y.even(0, 2), WHOLE * 19 / 3);
+        y.set(0, 5);
+        due("then one, with less light", y.even(1, 2), WHOLE * 8 / 3);
+        row(y, 2);
+    }
+
     static void promise30LightInAllTurns() {
         NinetyLamps x = with("w4;0>1*3;0>2*1;3>1*1;1>2*1;3>0*1;3>2*1");
         x.picture(0, 7);
@@ -362,6 +457,7 @@ public final class PicturesEdgesTest extends Bench {
         for (int k = 0; k < lamps; k++) {
             tell(x, places[k] + "*" + (1 + k % 3));
         }
+        x.set(1, 1);
         x.put(1, 2);
         x.seen(1, 2, 1);
         x.test(1, 2);
@@ -414,9 +510,19 @@ public final class PicturesEdgesTest extends Bench {
             leaves("better(0)", asked, x -> x.better(0), answer);
             NinetyLamps x = four(lamps);
             int before = x.parted(0);
+            long alone = x.alone();
+            int last = x.shows(1L << lamps - 1);
             x.better(0);
+            due("alone()", x.alone(), alone);
+            due("the last lamp", x.shows(1L << lamps - 1), last);
             due("parted(0)", x.parted(0), before);
         }
+    }
+
+    static void promise31LampsThatAreThere() {
+        NinetyLamps x = with("w2;0>1*1;0>1*1");
+        x.picture(0, 1);
+        due("none but these two to change with", x.better(0), -2);
     }
 
     static void promise31WithNoneItCanBe() {
@@ -437,6 +543,18 @@ public final class PicturesEdgesTest extends Bench {
         x.picture(0, 3);
         due("lamp 0 or 1 to 1>2 needs one turn more", x.better(0), 1);
         row(x, 0, 1, 1);
+    }
+
+    static void promise31TwoLampsThatMustChange() {
+        NinetyLamps x = with("w4;r0,0;r1,0;r2,4;r3,4;0>1*2;2>3*2");
+        x.set(2, 50);
+        x.picture(0, 1);
+        x.picture(1, 2);
+        due("lamp 0 is bright enough", x.parted(0), 1);
+        due("but not in the other place", x.better(0), -2);
+        due("lamp 1 is too faint", x.parted(1), -2);
+        due("but not in the other place", x.better(1), 1);
+        row(x, 0, 1, -2);
     }
 
     static void promise31FirstOfEqualOnes() {

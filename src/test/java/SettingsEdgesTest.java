@@ -129,6 +129,17 @@ public final class SettingsEdgesTest extends Bench {
         row(same, 5);
     }
 
+    static void promise20OnceMore() {
+        NinetyLamps x = with("w3;0>1*1;1>2*1");
+        due("sets()", x.sets(), 4);
+        due("once more", x.sets(), 4);
+        row(x, 3);
+        tell(x, "2>0*1");
+        x.set(1, 1);
+        due("with another lamp", x.sets(), 4);
+        row(x, 4);
+    }
+
     static void promise20AllSettingsOfWideSevenShowSets() {
         NinetyLamps x = with("w7;0>1*1;1>2*1;2>3*1;3>4*1;4>5*1;5>6*1;6>0*1");
         x.set(1, 1);
@@ -158,6 +169,10 @@ public final class SettingsEdgesTest extends Bench {
         due("from one wire", x.fits(0, 2), 1);
         NinetyLamps y = with("w3;0>1*5;0>1*1");
         due("one never glows", y.fits(0, 1), 0);
+        due("one never glows", y.fits(1, 0), 0);
+        NinetyLamps second = with("w3;0>1*1;0>1*5");
+        due("the second never glows", second.fits(1, 0), 0);
+        due("the second never glows", second.fits(0, 1), 0);
         y.set(0, 6);
         due("now it does", y.fits(0, 1), 1);
     }
@@ -204,6 +219,9 @@ public final class SettingsEdgesTest extends Bench {
         x.set(1, 1);
         due("two pairs", x.twins(), 2);
         row(x, 0, 4);
+        NinetyLamps wide = with("w7;5>6*1;5>6*2");
+        due("WIDE 7", wide.twins(), 1);
+        row(wide, 0, 1);
         NinetyLamps sixty = sixty();
         due("all pairs of sixty", sixty.twins(), 1770);
         row(sixty, 0, 1);

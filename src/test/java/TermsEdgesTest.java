@@ -159,6 +159,14 @@ public final class TermsEdgesTest extends Bench {
         due("the first test", x.test(0, 0), 0);
     }
 
+    static void termsWTakesAwayThePlacesOfLamps() {
+        NinetyLamps x = with("w4;0>1*1;1>2*1", "w4;2>3*1");
+        due("where the old one was", x.put(1, 2), 0);
+        due("from the old wire to the new one", x.put(1, 8), 0);
+        due("from the new wire to the old one", x.put(4, 2), 0);
+        due("where the new one is", x.put(4, 8), 1);
+    }
+
     static void termsWLeavesWhatItDoesNotName() {
         NinetyLamps x = rich();
         tell(x, "w5");
@@ -375,6 +383,22 @@ public final class TermsEdgesTest extends Bench {
         }
     }
 
+    /** As near to the edge as light comes: so many volts left, by so many ohms and a lamp. */
+    static void termsLampGlowsAtFaintHundredthsOfMoreVolts() {
+        for (int parts = 2; parts <= 9; parts++) {
+            int first = Math.min(4, parts - 1);
+            NinetyLamps x = with("0>1*1;r0," + first + ";r1," + (parts - 1 - first));
+            for (int volts = 1; volts < parts; volts++) {
+                int faint = 100 * volts / parts;
+                x.set(0, volts + 1);
+                x.set(2, faint);
+                due("FAINT " + faint + ", " + volts + " by " + parts, x.put(1, 2), 1);
+                x.set(2, faint + 1);
+                due("FAINT " + (faint + 1) + ", " + volts + " by " + parts, x.put(1, 2), 0);
+            }
+        }
+    }
+
     static void termsFaintIsComparedWithAllLightOfALamp() {
         NinetyLamps x = with("0>1*1;1>2*2;1>2*2;1>2*2");
         x.set(2, 51);
@@ -395,6 +419,15 @@ public final class TermsEdgesTest extends Bench {
         x.put(5, 2);
         due("GLOW", x.glows(), 5);
         due("both asked for", x.ghosts(), 0);
+    }
+
+    static void termsFirstLampIsAGhostToo() {
+        NinetyLamps x = with("1>2*1;0>1*1");
+        x.put(1, 4);
+        due("neither goes from high to low", x.ghosts(), 3);
+        NinetyLamps wide = with("w10;8>9*1;7>8*1");
+        wide.put(128, 512);
+        due("WIDE 10", wide.ghosts(), 3);
     }
 
     static void termsAskedForAndOnAPathOfOthersIsNoGhost() {
@@ -435,6 +468,9 @@ public final class TermsEdgesTest extends Bench {
         NinetyLamps x = with("w2");
         due("all let go", x.shows(0), 0);
         row(x, 0, 0, 9);
+        NinetyLamps most = with("w7");
+        due("all let go", most.shows(0), 0);
+        row(most, 0, 0, 2187);
         NinetyLamps last = with("w7", "0>6*1;1>6*1;2>6*1;3>6*1;4>6*1;5>6*1");
         due("five wires high, the last one low", last.shows(63), 2187 / 3 + 243 + 81 + 27 + 9 + 3 + 2);
         NinetyLamps first = with("w7", "6>0*1;6>1*1;6>2*1;6>3*1;6>4*1;6>5*1");
@@ -566,6 +602,15 @@ public final class TermsEdgesTest extends Bench {
         due("b is low: 4 by 5", low.would(4, 4, 2), 3);
     }
 
+    static void termsTouchOfHighWiresIsNoWireBetween() {
+        NinetyLamps x = with("w4;0>2*1;1>3*1");
+        due("1 and 2 touch: from 0 to 1, both high", x.would(8, 3, 8), 2);
+        due("1 and 2 touch: 2 is high", x.would(8, 5, 8), 2);
+        due("1 and 2 touch: let go", x.would(8, 1, 8), 3);
+        due("1 and 2 touch: 2 is low", x.would(8, 1, 12), 1);
+        due("1 and 2 touch: 1 is low", x.would(8, 1, 10), 1);
+    }
+
     static void termsLampBetweenWiresThatTouchNeverGlows() {
         NinetyLamps x = with("w3;0>1*1;1>0*1;1>2*1;0>2*1");
         for (int high = 0; high < 8; high++) {
@@ -587,6 +632,16 @@ public final class TermsEdgesTest extends Bench {
         due("lamp 0 turned: both from 1", x.would(7, 2, 5), 3);
         due("lamp 1 turned: both to 1", x.would(8, 5, 2), 3);
         due("none: 2 is high", x.would(0, 5, 2), 1);
+    }
+
+    static void termsTurnedLampIsNoLongerWhereItWas() {
+        NinetyLamps x = with("w4;0>1*1;1>2*1;1>3*1");
+        x.set(1, 3);
+        due("lamp 1 turned: not round by it", x.would(1 + 4 + 6 + 1, 1, 8), 5);
+        NinetyLamps y = with("w4;0>2*1;1>2*1;1>3*1");
+        y.set(1, 3);
+        due("lamp 1 turned: not through a high wire", y.would(1 + 4 + 6 + 1, 3, 8), 4);
+        due("lamp 1 turned: through it, let go", y.would(1 + 4 + 6 + 1, 1, 8), 7);
     }
 
     // ---- the row, searches, refused calls
@@ -625,6 +680,50 @@ public final class TermsEdgesTest extends Bench {
         x.again(0);
         tell(x, "w3");
         row(x, 6, 16);
+    }
+
+    static final Call[] TELLING = {
+        x -> x.light(3), x -> x.why(3), x -> x.brightest(), x -> x.shows(0), x -> x.bars(1), x -> x.most(), x -> x.sets(),
+        x -> x.twins(), x -> x.parted(0), x -> x.proof(0), x -> x.changes(0), x -> x.even(0, 9), x -> x.faults(),
+        x -> x.tells(1), x -> x.hidden(), x -> x.alike(0, 1), x -> x.which(), x -> x.next(), x -> x.tree(), x -> x.path(0)};
+
+    /** The rich object with nothing seen, so that some faults agree, and a picture that can be parted. */
+    static NinetyLamps telling() {
+        NinetyLamps x = rich();
+        x.forget();
+        x.forget();
+        x.forget();
+        x.set(1, 1);
+        x.put(1, 30);
+        x.picture(0, 1);
+        return x;
+    }
+
+    static void termsRowIsToldAnew() {
+        for (int k = 0; k < TELLING.length; k++) {
+            NinetyLamps x = telling();
+            long answer = TELLING[k].on(x);
+            due("call " + k + " tells a row", answer >= 0, true);
+            NinetyLamps y = telling();
+            y.which();
+            due("a long row", y.count(7), 8);
+            due("call " + k, TELLING[k].on(y), answer);
+            due("call " + k + ": numbers", y.count(7), x.count(7));
+            for (int n = 0; n < 8; n++) {
+                due("call " + k + ": row(" + n + ")", rowOf(y, n), rowOf(x, n));
+            }
+        }
+    }
+
+    static void termsTellingChangesTheRowAlone() {
+        for (int k = 0; k < TELLING.length; k++) {
+            Call call = TELLING[k];
+            leaves("call " + k + " once more", () -> {
+                NinetyLamps x = telling();
+                call.on(x);
+                return x;
+            }, call, call.on(telling()));
+        }
     }
 
     static void termsSearchesNeedWideSevenAtMost() {
