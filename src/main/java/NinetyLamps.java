@@ -230,8 +230,8 @@ public final class NinetyLamps {
         }
         if (times > 0) {
             told.clear();
-            told.add(wiresThatAre(1, first, board.wide));
-            told.add(wiresThatAre(2, first, board.wide));
+            told.add(table.high[first]);
+            told.add(table.low[first]);
             told.add(times);
         }
         return first;
@@ -1111,11 +1111,9 @@ public final class NinetyLamps {
             low = lowWires;
             turned = NONE;
             joined = NONE;
-            for (int wire = 0; wire < board.wide; wire++) {
-                ohms[wire] = board.ohms[wire];
-                out[wire] = board.out[wire];
-                into[wire] = board.into[wire];
-            }
+            System.arraycopy(board.ohms, 0, ohms, 0, MOST_WIRES);
+            System.arraycopy(board.out, 0, out, 0, MOST_WIRES);
+            System.arraycopy(board.into, 0, into, 0, MOST_WIRES);
         }
 
         /** Without a lamp on it, it is all one whether the wire is let go. */
@@ -1341,6 +1339,8 @@ public final class NinetyLamps {
     private static final class Table {
         final Board board;
         final Flow flow;
+        final int[] high = new int[SEARCH_SETTINGS];
+        final int[] low = new int[SEARCH_SETTINGS];
         final long[] glow = new long[SEARCH_SETTINGS];
         final boolean[] clean = new boolean[SEARCH_SETTINGS];
         /** Settings by what they show, hashed: the number and one, 0 for none. */
@@ -1359,11 +1359,11 @@ public final class NinetyLamps {
             }
             size = Math.min(settingsOf(board.wide), SEARCH_SETTINGS);
             for (int s = 0; s < size; s++) {
-                int high = wiresThatAre(1, s, board.wide);
-                int low = wiresThatAre(2, s, board.wide);
-                flow.lay(high, low);
+                high[s] = wiresThatAre(1, s, board.wide);
+                low[s] = wiresThatAre(2, s, board.wide);
+                flow.lay(high[s], low[s]);
                 glow[s] = flow.run();
-                clean[s] = (glow[s] & ~board.asked(high, low)) == 0;
+                clean[s] = (glow[s] & ~board.asked(high[s], low[s])) == 0;
             }
             fresh = true;
         }
@@ -1604,16 +1604,8 @@ public final class NinetyLamps {
             }
         }
 
-        private static int differing(int a, int b) {
-            int restA = a;
-            int restB = b;
-            int wires = 0;
-            for (int k = 0; k < SEARCH_WIDE; k++) {
-                wires += restA % 3 != restB % 3 ? 1 : 0;
-                restA /= 3;
-                restB /= 3;
-            }
-            return wires;
+        private int differing(int a, int b) {
+            return Integer.bitCount(table.high[a] ^ table.high[b] | table.low[a] ^ table.low[b]);
         }
 
         /** Gives n slots, at least as many as turns: the least that a lamp of the picture has. */
@@ -1637,9 +1629,8 @@ public final class NinetyLamps {
         }
 
         private void takeLights() {
-            int wide = table.board.wide;
             for (int t = 0; t < turns; t++) {
-                flow.glowing(wiresThatAre(1, chosen[t], wide), wiresThatAre(2, chosen[t], wide));
+                flow.glowing(table.high[chosen[t]], table.low[chosen[t]]);
                 for (int k = 0; k < lamps; k++) {
                     lights[t * PART_LAMPS + k] = flow.light[lampAt[k]];
                     sums[k] += flow.light[lampAt[k]];
@@ -1726,22 +1717,23 @@ public final class NinetyLamps {
         }
 
         int secondOf(int fault) {
-            return kindOf(fault) == TOUCH ? fault - pairsFrom(firstOfPair(fault)) : NONE;
-        }
-
-        /** What is to be taken from the number of a pair with this first wire: then its second stays. */
-        private int pairsFrom(int first) {
-            return firstTouch() + first * (2 * board.wide - first - 1) / 2 - first - 1;
+            return kindOf(fault) == TOUCH ? secondOfPair(fault, firstOfPair(fault)) : NONE;
         }
 
         private int firstOfPair(int fault) {
             int first = 0;
-            for (int wire = 1; wire < board.wide - 1; wire++) {
-                if (fault - pairsFrom(wire) > wire) {
-                    first = wire;
-                }
+            int behind = fault - firstTouch();
+            for (int pairs = board.wide - 1; pairs > 0 && behind >= pairs; pairs--) {
+                behind -= pairs;
+                first++;
             }
             return first;
+        }
+
+        /** The pairs of each wire ahead of the first one are one fewer than those of the wire before. */
+        private int secondOfPair(int fault, int first) {
+            int ahead = first * (2 * board.wide - first - 1) / 2;
+            return fault - firstTouch() - ahead + first + 1;
         }
 
         long glowWith(int fault, int high, int low) {
@@ -1751,7 +1743,8 @@ public final class NinetyLamps {
                     flow.cut(firstOf(fault));
                     break;
                 case TOUCH:
-                    flow.join(firstOf(fault), secondOf(fault));
+                    int first = firstOfPair(fault);
+                    flow.join(first, secondOfPair(fault, first));
                     break;
                 case TURNED:
                     flow.turn(firstOf(fault));
@@ -1767,8 +1760,8 @@ public final class NinetyLamps {
             if (fault == 0) {
                 return table.glow[s];
             }
-            int high = wiresThatAre(1, s, board.wide);
-            int low = wiresThatAre(2, s, board.wide);
+            int high = table.high[s];
+            int low = table.low[s];
             return high == 0 || low == 0 ? 0 : glowWith(fault, high, low);
         }
 
